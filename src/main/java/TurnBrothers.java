@@ -312,10 +312,9 @@ public final class TurnBrothers {
         int fewest = 0;
         for (int term = 1; term <= MOST_TERM; term++) {
             passWithTerm(term);
-            int putOff = work.putOff - city.putOff;
-            if (term == 1 || putOff < fewest) {
+            if (term == 1 || work.putOff < fewest) {
                 best = term;
-                fewest = putOff;
+                fewest = work.putOff;
             }
         }
         return best;

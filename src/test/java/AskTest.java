@@ -412,6 +412,11 @@ public final class AskTest {
         late.see(11, 9);
         Checks.same("in the twelfth", 12, late.next(0));
         Checks.same("by two deeds", 2, late.next(1));
+        // only walls differ, till he stays by them, and the other one's deed of 99 isn't done in the 30th year
+        TurnBrothers last = Checks.landed("city 0 20 0;harvests 0 0 0 0 0 0 0 0 0 33;deed 0 1 0 0;deed 99 0 0 0;"
+                + "younger 1;stays year=29 and 20<walls;");
+        Checks.same("in the thirtieth", 30, last.next(0));
+        Checks.same("99 or none", 2, last.next(1));
         Checks.noSuch("next what 2", () -> x.next(2));
         Checks.noSuch("next what -1", () -> x.next(-1));
     }

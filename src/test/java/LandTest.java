@@ -249,6 +249,7 @@ public final class LandTest {
         fault(x, "likes men;", 3, 6);
         fault(x, "likes walls;", 3, 6);
         fault(x, "likes year;", 3, 6);
+        fault(x, "stays z;", 3, 6);
         fault(x, "stays and;", 3, 6);
         fault(x, "stays city;", 3, 6);
         fault(x, "stays storeand walls;", 3, 6);
