@@ -154,8 +154,7 @@ public final class LandTest {
     }
 
     private static void fault(TurnBrothers x, String text, int fault, int place) {
-        Checks.same("land of " + text, fault, Checks.land(x, text));
-        Checks.same("place in " + text, place, x.fault());
+        Checks.fault(x, text, fault, place);
     }
 
     private static void faultsOfLines() {
