@@ -1,6 +1,9 @@
 import java.io.IOException;
+import java.lang.reflect.Field;
+import java.lang.reflect.Modifier;
 import java.nio.file.Files;
 import java.nio.file.Path;
+import java.util.Set;
 import java.util.regex.Matcher;
 import java.util.regex.Pattern;
 
@@ -10,6 +13,9 @@ public final class LanguageTest {
         "\\bassert\\b", "\\bprotected\\b", "Exact\\(", "System\\.(?!arraycopy)", "\\bvar\\b", "\\bstatic\\s*\\{",
         "\\bRandom\\b", "\\bThread\\b", "\\bpackage\\b", "\\bequals\\(Object", "\\bhashCode\\b", "\\btoString\\b",
         "\\bObject\\b", "\\bvolatile\\b", "\\bnative\\b"};
+
+    private static final Set<String> LIBRARY = Set.of("Math.min(", "Math.max(", "Math.abs(", "Integer.bitCount(",
+            "System.arraycopy(", "Word.values(");
 
     private LanguageTest() {
     }
@@ -23,7 +29,12 @@ public final class LanguageTest {
         Checks.same("imports", 1, places("(?m)^import ", source));
         Checks.same("of NoSuchElementException", 1, places("import java\\.util\\.NoSuchElementException;", source));
         Checks.same("at most twelve classes", true, places("\\b(class|enum|interface|record) [A-Z]", source) <= 12);
+        library(source);
         methods(source);
+        fields(TurnBrothers.class);
+        for (Class<?> inside : TurnBrothers.class.getDeclaredClasses()) {
+            fields(inside);
+        }
         room();
         Checks.finish();
     }
@@ -35,6 +46,30 @@ public final class LanguageTest {
             many++;
         }
         return many;
+    }
+
+    private static void library(String source) {
+        Matcher call = Pattern.compile("\\b[A-Z]\\w*\\.\\w+\\(").matcher(source);
+        while (call.find()) {
+            Checks.same(call.group() + " stands in the library's list", true, LIBRARY.contains(call.group()));
+        }
+        Checks.same("values() kept once", 1, places("\\bvalues\\(\\)", source));
+        Checks.same("texts joined by +", 0, places("\"\"\\s*\\+|\\+=?\\s*\"\"", source));
+        Checks.same("throws of a written text", places("\\bthrow\\b", source),
+                places("throw new (NoSuchElement|IllegalArgument)Exception\\(\"\"\\);", source));
+    }
+
+    /** Static fields are final, a class has some twenty others. */
+    private static void fields(Class<?> one) {
+        int many = 0;
+        for (Field field : one.getDeclaredFields()) {
+            if (!Modifier.isStatic(field.getModifiers())) {
+                many++;
+            } else if (!field.isSynthetic()) {
+                Checks.same(field + " is final", true, Modifier.isFinal(field.getModifiers()));
+            }
+        }
+        Checks.same("fields of " + one, true, many <= 20);
     }
 
     private static void methods(String source) {
